@@ -288,7 +288,7 @@ public final class MarkupStore {
         return !text.isEmpty() && text.length() <= NAME_LIMIT;
     }
 
-    /** A - is refused where the --> that follows when it is written, or another -, would make it a --. */
+    /** As it is written out, -- may stand only in a COMMENT's end, so no - may touch that end either. */
     private static boolean mayBeComment(String text) {
         for (int k = 0; k < text.length(); k++) {
             boolean dashFollows = k + 1 == text.length() || text.charAt(k + 1) == '-';
@@ -583,13 +583,13 @@ public final class MarkupStore {
     /** Reads a DOCUMENT, or CONTENT that makes one node, into nodes that have no numbers yet. */
     private static final class MarkupReader extends TextReader {
         final ArrayList<Node> read;
-        private final StringBuilder value;
+        private final StringBuilder scratch;
         private boolean tooMuch;
 
         MarkupReader(String text, StringBuilder scratch) {
             super(text);
             read = new ArrayList<>();
-            value = scratch;
+            this.scratch = scratch;
             tooMuch = false;
         }
 
@@ -631,7 +631,8 @@ public final class MarkupStore {
 
         private boolean readPiece(Node parent, int[] label) {
             if (seen(at) != '<') {
-                return readText(parent, label);
+                make(TEXT, parent, label).text = readValue('<');
+                return !failed();
             }
             char next = seen(at + 1);
             if (next == '!') {
@@ -715,12 +716,6 @@ public final class MarkupStore {
             return take('>');
         }
 
-        private boolean readText(Node parent, int[] label) {
-            Node node = make(TEXT, parent, label);
-            node.text = readValue('<');
-            return !failed();
-        }
-
         private boolean readComment(Node parent, int[] label) {
             if (!take('<') || !take('!') || !take('-') || !take('-')) {
                 return false;
@@ -737,20 +732,20 @@ public final class MarkupStore {
 
         /** What ENTITIES and characters stand for, up to a < or the other character that ends them. */
         private String readValue(char stop) {
-            value.setLength(0);
+            scratch.setLength(0);
             for (int k = 0; k < text.length() && at < text.length(); k++) {
                 char c = seen(at);
                 if (c == '<' || c == stop) {
                     break;
                 }
-                value.append(c == '&' ? readEntity() : c);
+                scratch.append(c == '&' ? readEntity() : c);
                 if (failed()) {
                     break;
                 }
                 at++;
             }
-            tooMuch = tooMuch || value.length() > VALUE_LIMIT;
-            return value.toString();
+            tooMuch = tooMuch || scratch.length() > VALUE_LIMIT;
+            return scratch.toString();
         }
 
         /** What the ENTITY here stands for; the place becomes that of its last character. */
@@ -993,29 +988,25 @@ public final class MarkupStore {
                 step.name = readName();
             }
             for (int k = 0; k < text.length() && !failed() && seen(at) == '['; k++) {
-                readBracket(step, depth);
+                if (depth >= PREDICATE_LIMIT) {
+                    failAt(at);
+                    return step;
+                }
+                at++;
+                step.predicates.add(readPredicate(depth + 1));
+                if (!failed()) {
+                    take(']');
+                }
             }
             return step;
         }
 
         private static boolean isAxis(char c) {
-            return c != END && "DEPABSNLFR".indexOf(c) >= 0;
+            return "DEPABSNLFR".indexOf(c) >= 0;
         }
 
         private static boolean isKindSign(char c) {
-            return c != END && "*#%.".indexOf(c) >= 0;
-        }
-
-        private void readBracket(Step step, int depth) {
-            if (depth >= PREDICATE_LIMIT) {
-                failAt(at);
-                return;
-            }
-            at++;
-            step.predicates.add(readPredicate(depth + 1));
-            if (!failed()) {
-                take(']');
-            }
+            return "*#%.".indexOf(c) >= 0;
         }
 
         private Predicate readPredicate(int depth) {
@@ -1032,9 +1023,13 @@ public final class MarkupStore {
                 predicate.sort = Predicate.LAST;
                 at++;
             } else if (c == '@') {
-                readAttributeTest(predicate);
+                predicate.sort = Predicate.ATTRIBUTE;
+                at++;
+                predicate.name = readName();
+                readComparison(predicate, "=");
             } else {
-                readPathTest(predicate, depth);
+                predicate.path = readPath(depth);
+                readComparison(predicate, "=~");
             }
             return predicate;
         }
@@ -1052,24 +1047,11 @@ public final class MarkupStore {
             return position;
         }
 
-        private void readAttributeTest(Predicate predicate) {
-            predicate.sort = Predicate.ATTRIBUTE;
-            at++;
-            predicate.name = readName();
-            if (!failed() && seen(at) == Predicate.EQUAL) {
-                readComparison(predicate);
+        /** A comparison by one of these signs, if one stands here. */
+        private void readComparison(Predicate predicate, String signs) {
+            if (failed() || signs.indexOf(seen(at)) < 0) {
+                return;
             }
-        }
-
-        private void readPathTest(Predicate predicate, int depth) {
-            predicate.path = readPath(depth);
-            char c = seen(at);
-            if (!failed() && (c == Predicate.EQUAL || c == Predicate.BEGINS)) {
-                readComparison(predicate);
-            }
-        }
-
-        private void readComparison(Predicate predicate) {
             predicate.comparison = seen(at);
             at++;
             if (!take('\'')) {

@@ -103,6 +103,7 @@ final class QueryTest {
         check.dueQuery("/a/b/c", 9, 3, 10);
         check.dueQuery("D*[/a]", 7, 8, 10, 11);
         check.dueQuery("D*[/b]", 7);
+        check.dueQuery("E.[/b]", 0);
         check.dueQuery("D*[/S.]", 7);
         check.dueQuery("/a/P.", 3);
     }
