@@ -924,7 +924,6 @@ public final class MarkupStore {
         static final char ATTRIBUTE = '@';
         static final char LEADS = '/';
         static final char ANY = ' ';
-        static final char EQUAL = '=';
         static final char BEGINS = '~';
 
         char sort;

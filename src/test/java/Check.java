@@ -107,6 +107,35 @@ final class Check {
         return all.toString();
     }
 
+    /** All that can be asked without changing anything, but for the buffer. */
+    String state() {
+        StringBuilder all = new StringBuilder(document());
+        all.append(" root ").append(store.root()).append(" nodes ").append(store.nodes());
+        for (int k = 0; store.result(k) != -1000; k++) {
+            all.append(" result ").append(store.result(k));
+        }
+        for (int i = 0; i < 200; i++) {
+            all.append(store.kind(i) == -1000 ? "" : " node " + i + " " + nodeState(i));
+        }
+        return all.toString();
+    }
+
+    private String nodeState(int i) {
+        StringBuilder all = new StringBuilder(words(i));
+        for (int what = 0; what < 7; what++) {
+            all.append(' ').append(store.node(i, what));
+        }
+        for (int k = 0; k < store.node(i, 5); k++) {
+            all.append('.').append(store.label(i, k));
+        }
+        return all.toString();
+    }
+
+    /** The load of an empty buffer has its first error at place 0, and changes nothing. */
+    void dueEmptyBuffer(String behind) {
+        due("load of an empty buffer, behind " + behind, store.load(), -1);
+    }
+
     /** Ends the test program: with exit code 1 when an answer was wrong. */
     void end(String test) {
         System.out.println(test + ": " + looked + " answers looked at, " + wrong + " wrong");
