@@ -31,6 +31,8 @@ final class ErrorEdgesTest {
         check.dueLoad("<a>&x;&y;</a>", -4);
         check.dueLoad("<a x=\"&x;&y;<\"/>", -7);
         check.dueLoad("<a =\"<", -4);
+        check.dueLoad("<a =?", -4);
+        check.dueLoad("<a =\"&", -4);
         check.dueLoad("<a></b></c>", -6);
     }
 
